@@ -483,7 +483,7 @@ public final class DareFord {
             return BAD;
         }
         aside.become(now);
-        return tell(outcomeAside(i, j, 2 * n));
+        return tell(outcome(aside, i, j, 2 * n));
     }
 
     // ---- 8 chances, lots
@@ -730,11 +730,13 @@ public final class DareFord {
             return fault;
         }
         aside.settle(text[begin + 1] - '0');
-        for (int at = pastBlanks(text, size, begin + 2); at < size; at = pastBlanks(text, size, at + PERSON_SIZE)) {
+        int at = pastBlanks(text, size, begin + 2);
+        for (int read = 0; read <= PEOPLE_MOST && at < size; read++) {
             fault = readPersonAside(text, size, at);
             if (fault != NONE) {
                 return fault;
             }
+            at = pastBlanks(text, size, at + PERSON_SIZE);
         }
         return aside.people == 0 ? size : NONE;
     }
@@ -943,22 +945,22 @@ public final class DareFord {
         return NONE;
     }
 
-    /** What becomes of a duel aside with so many turns left; their number is at most twice DUEL_MOST. */
-    private int outcomeAside(int i, int j, int turns) {
+    /** What becomes of a duel with so many turns left: twice DUEL_MOST at most, so deep it goes. */
+    private static int outcome(Bank bank, int i, int j, int turns) {
         if (turns <= 0) {
-            int who = aside.holder(0);
+            int who = bank.holder(0);
             return who == i ? 1 : who == j ? -1 : 0;
         }
         boolean isFirst = turns % 2 == 0;
         int who = isFirst ? i : j;
-        int daring = aside.darings[who];
+        int daring = bank.darings[who];
         int best = isFirst ? -1 : 1;
         for (int by = 0; by <= 2; by++) {
-            aside.darings[who] = Math.min(DARING_MOST, daring + by);
-            int outcome = outcomeAside(i, j, turns - 1);
-            best = isFirst ? Math.max(best, outcome) : Math.min(best, outcome);
+            bank.darings[who] = Math.min(DARING_MOST, daring + by);
+            int reached = outcome(bank, i, j, turns - 1);
+            best = isFirst ? Math.max(best, reached) : Math.min(best, reached);
         }
-        aside.darings[who] = daring;
+        bank.darings[who] = daring;
         return best;
     }
 

@@ -6,6 +6,7 @@ public final class DuelTest {
         duel();
         most();
         third();
+        behindDeeds();
         changesNothing();
         refused();
         Due.end();
@@ -48,6 +49,16 @@ public final class DuelTest {
         duelIs("f4 e102 e203", 0, 1, 0, 0);
         duelIs("f4 e102 e203", 1, 0, 1, 1);
         duelIs("f4 e102 e203", 0, 1, 1, -1);
+    }
+
+    private static void behindDeeds() {
+        DareFord x = Due.river("f4 p309 p508");
+        x.raise(1, 4);
+        Due.told(x, "duel(0, 1, 0) behind a raising", x.duel(0, 1, 0), -1);
+        x.night();
+        x.night();
+        x.shame(1, 8);
+        Due.told(x, "duel(0, 1, 3) behind NIGHTS", x.duel(0, 1, 3), 1);
     }
 
     private static void changesNothing() {

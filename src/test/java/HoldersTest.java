@@ -7,6 +7,7 @@ public final class HoldersTest {
         darings();
         kinds();
         look();
+        lookBehindDeeds();
         lookOfNone();
         lookIsFirst();
         changesNothing();
@@ -66,6 +67,21 @@ public final class HoldersTest {
         Due.write(x, 0, 0, 0, 0, 0, 0, 0, 0, 0, 0, 0);
         Due.due("look(0) of ten", x.look(0, 0), 1);
         Due.due("look(0) of ten by asked()", x.asked(), 2);
+    }
+
+    /** DARINGS 0, 1 and 2 alone are left by the ROW: who is daring soon has it. */
+    private static void lookBehindDeeds() {
+        DareFord x = Due.river("f4 p109 b503");
+        x.shame(0, 7);
+        Due.write(x, 0, 1, 1);
+        Due.due("darings(0, {1, 1}) of 3 and 1", x.darings(0, 0), bits(0, 2));
+        Due.due("look(0, {1, 1})", x.look(0, 0), 1);
+        Due.due("look(0, {1, 1}) by asked()", x.asked(), 3);
+        x.raise(1, 8);
+        Due.write(x, 0, 1);
+        Due.due("darings(0, {1}) of 11", x.darings(0, 0), bits(0, 11));
+        Due.due("look(0, {1}) of 11", x.look(0, 0), 7);
+        Due.due("look(0, {1}) of 11 by asked()", x.asked(), 7);
     }
 
     private static void lookOfNone() {

@@ -72,6 +72,9 @@ public final class RaisingTest {
         cheapIs("f4 q305 p107", 0, 2, 0, 2);
         cheapIs("f4 d310 p109", 1, 6, 6, 0);
         cheapIs("f4 p000 t903", 0, 6, 3, 3);
+        cheapIs("f4 p314 q405", 1, 9, 9, 0);
+        cheapIs("f0 p011 q904 q903 q902 q901 q900", 0, 0, 0, 0, 0, 0, 0, 0);
+        cheapIs("f9 e000 q904 q903", 0, 11, 11, 0, 0);
     }
 
     private static void cheapOfLikeOnes() {

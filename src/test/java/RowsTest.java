@@ -110,6 +110,10 @@ public final class RowsTest {
         Due.rowIs(x, "copy to itself, back", 0, 2, 3, 4, 3, 4);
         Due.due("copy(0, 5, 1, 3, 0)", x.copy(0, 5, 1, 3, 0), 1);
         Due.rowIs(x, "copy of none", 1, 9, 4, 5);
+        x.row(2, 0);
+        Due.due("copy(2, 0, 2, 0, 0)", x.copy(2, 0, 2, 0, 0), 1);
+        Due.due("copy(0, 0, 2, 0, 0)", x.copy(0, 0, 2, 0, 0), 1);
+        Due.due("copy(2, 0, 1, 0, 0)", x.copy(2, 0, 1, 0, 0), 1);
     }
 
     private static void copyRefused() {
@@ -144,6 +148,9 @@ public final class RowsTest {
         Due.told(x, "mean of the most", x.mean(0), Integer.MAX_VALUE);
         Due.write(x, 0, Integer.MIN_VALUE, Integer.MIN_VALUE);
         Due.told(x, "mean of the least", x.mean(0), Integer.MIN_VALUE);
+        x.row(0, 40);
+        x.lay(0, 39, 83);
+        Due.told(x, "mean of forty", x.mean(0), 2);
         x.row(1, 0);
         Due.finds(x, "mean(1)", NOUGHT, () -> x.mean(1));
         Due.finds(x, "mean(2)", NOTHING, () -> x.mean(2));

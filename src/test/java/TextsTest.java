@@ -43,6 +43,8 @@ public final class TextsTest {
         Due.refused(x, "put(4, 0, 0)", BAD, () -> x.put(4, 0, 0));
         Due.finds(x, "put(0, 0, 0)", NOTHING, () -> x.put(0, 0, 0));
         Due.finds(x, "put(1, 3, 0)", BEYOND, () -> x.put(1, 3, 0));
+        x.text(2, 0);
+        Due.finds(x, "put(2, 0, 0)", BEYOND, () -> x.put(2, 0, 0));
         Due.finds(x, "put(1, -1, 0)", BEYOND, () -> x.put(1, -1, 0));
     }
 
@@ -100,6 +102,13 @@ public final class TextsTest {
         faultIs("f4 p109 p109 p109 p109 p109 p109 x", 33);
         faultIs("f4" + (char) 230 + "109", 2);
         faultIs("f4p109\t", 6);
+        String many = " ".repeat(60);
+        faultIs(many, 60);
+        faultIs(many.substring(1) + "f", 60);
+        faultIs("f4" + many.substring(3) + "p", 60);
+        faultIs("f4" + many.substring(4) + "p1", 60);
+        faultIs("f4" + many.substring(5) + "p11", 60);
+        faultIs("f4" + many.substring(6) + "p119", NONE);
     }
 
     private static void faultRefused() {

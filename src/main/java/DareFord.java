@@ -810,7 +810,7 @@ public final class DareFord {
     }
 
     private static int betBoldness(int far) {
-        return Math.min(BET_MOST, far);
+        return far < BET_MOST ? far : BET_MOST;
     }
 
     private static int fading(int kind) {

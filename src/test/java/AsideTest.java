@@ -35,6 +35,8 @@ public final class AsideTest {
         Due.refused(x, "dares(-1, ..)", BAD, () -> x.dares(-1, 0, 0, 0));
         Due.refused(x, "dares(0, 21, ..)", BAD, () -> x.dares(0, 21, 0, 0));
         Due.refused(x, "dares(0, -1, ..)", BAD, () -> x.dares(0, -1, 0, 0));
+        DareFord drunk = Due.river("f4 d109");
+        Due.refused(drunk, "dares(0, -1, ..) of a DRUNK", BAD, () -> drunk.dares(0, -1, 0, 0));
         Due.refused(x, "dares(0, 0, 100, 0)", BAD, () -> x.dares(0, 0, 100, 0));
         Due.refused(x, "dares(0, 0, -1, 0)", BAD, () -> x.dares(0, 0, -1, 0));
         Due.refused(x, "dares(0, 0, 0, 10)", BAD, () -> x.dares(0, 0, 0, 10));

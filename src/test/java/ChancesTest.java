@@ -58,6 +58,10 @@ public final class ChancesTest {
         midIs(x, 4, 6, 9, 4);
         midIs(x, 0, 6, 19, 4);
         midIs(x, 9, 3, 2 * 12 + 8 * 3 + 5, 16);
+        DareFord six = Due.river("f4 p109 p208 p307 p406 p505 p604");
+        midIs(six, 0, 0, 1, 1);
+        midIs(six, 0, 12, 4, 1);
+        midIs(six, 0, 6, (32 * 1 + 16 * 2 + 8 * 3 + 4 * 4 + 2 * 5 + 6 + 4) / 4, 64 / 4);
     }
 
     private static void fairIs(DareFord x, int p, int place, long upper, long lower) {
@@ -77,6 +81,8 @@ public final class ChancesTest {
         fairIs(two, 6, 2, 3, 1);
         fairIs(two, 7, 8, 5, 2);
         fairIs(two, 5, 2, 5, 2);
+        fairIs(Due.river("f5 p009"), 0, 0, 0, 1);
+        fairIs(Due.river("f5 p109"), 0, 1, 0, 1);
         DareFord all = Due.river("f9 p009 d905 p100");
         fairIs(all, 12, 9, 0, 1);
     }

@@ -14,6 +14,7 @@ public final class DeedsTest {
         full();
         undo();
         keepAndOn();
+        onBehindOtherDeeds();
         noPeople();
         Due.end();
     }
@@ -209,6 +210,22 @@ public final class DeedsTest {
         Due.refused(x, "on(-1)", BAD, () -> x.on(-1));
         Due.refused(x, "on(3)", BAD, () -> x.on(3));
         Due.finds(y, "on(1)", NOTHING, () -> y.on(1));
+    }
+
+    private static void onBehindOtherDeeds() {
+        DareFord x = Due.river("f4 p109 d705");
+        x.night();
+        x.door(0, 3);
+        x.raise(1, 4);
+        x.keep(2);
+        long kept = x.digest();
+        x.undo(0);
+        x.shame(0, 2);
+        x.door(1, 0);
+        Due.due("on(2) behind other DEEDS", x.on(2), 3);
+        Due.due("digest() of the one kept", x.digest(), kept);
+        Due.due("undo(2) of one gone on from", x.undo(2), 1);
+        darings(x, "without the raising", 8, 3);
     }
 
     private static void noPeople() {

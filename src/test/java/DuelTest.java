@@ -33,6 +33,8 @@ public final class DuelTest {
         duelIs("f4 e304 q507", 0, 1, 1, 1);
         duelIs("f4 e304 q507", 0, 1, 0, -1);
         duelIs("f4 e301 q504", 1, 0, 2, 1);
+        duelIs("f4 q505 p307", 0, 1, 1, -1);
+        duelIs("f4 q505 p307", 1, 0, 1, 1);
     }
 
     private static void most() {

@@ -10,6 +10,7 @@ public final class HoldersTest {
         lookBehindDeeds();
         lookOfNone();
         lookIsFirst();
+        lookEarlyAndLate();
         changesNothing();
         refusals();
         Due.end();
@@ -99,6 +100,21 @@ public final class HoldersTest {
         Due.due("darings(0, {1, 0}) of one number", x.darings(0, 0), bits(8, 8));
         Due.due("look(0, 0) of one DARING", x.look(0, 0), 1);
         Due.due("look(0, 0) of one DARING by asked()", x.asked(), 1);
+    }
+
+    private static void lookIs(String text, int i, int who, int night, int part) {
+        DareFord x = Due.river(text);
+        Due.write(x, 0, who);
+        String call = "'" + text + "': look(" + i + ", {" + who + "})";
+        Due.due(call, x.look(i, 0), night);
+        Due.due(call + " by asked()", x.asked(), part);
+    }
+
+    /** In the second of these a 21st NIGHT would tell more (6), which is not looked at. */
+    private static void lookEarlyAndLate() {
+        lookIs("f6 p910 d605", 0, 1, 2, 6);
+        lookIs("f1 b709 b620 b517", 0, 1, 19, 8);
+        lookIs("f9 t300 b219", 0, 0, 20, 2);
     }
 
     private static void changesNothing() {

@@ -28,6 +28,9 @@ public final class RaisingTest {
         Due.due("lift(2, 2)", y.lift(2, 2), NONE);
         DareFord nearer = Due.river("f4 p318 b620");
         Due.due("lift(0, 1) to 20, nearer", nearer.lift(0, 1), 2);
+        DareFord late = Due.river("f4 b120 b120");
+        Due.due("lift(1, 20)", late.lift(1, 20), 0);
+        Due.due("lift(0, 20)", late.lift(0, 20), NONE);
     }
 
     private static void liftOfTheQuiet() {
@@ -84,6 +87,7 @@ public final class RaisingTest {
         cheapIs("f4 p912 p912 p309", 2, 3, 0, 0, 3);
         cheapIs("f4 p520 p319", 1, 2, 2, 0);
         cheapIs("f4 p319 p520", 0, 1, 0, 1);
+        cheapIs("f4 p318 p120 p020 p920", 0, 2, 2, 0, 0, 0);
     }
 
     private static void cheapRow() {

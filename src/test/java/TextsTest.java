@@ -150,6 +150,7 @@ public final class TextsTest {
         x.keep(0);
         x.night();
         x.keep(2);
+        x.where(7);
         Due.write(x, 3, "f2 b308");
         Due.due("river(3)", x.river(3), 1);
         int[] counts = {1, 0, 0, 2, 1, 8, 0, 0, 1, 0, 2, 0};

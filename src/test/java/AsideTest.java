@@ -13,8 +13,8 @@ public final class AsideTest {
     }
 
     private static void dares() {
-        DareFord x = Due.river("f4 p109 d705 e312 b008 t914 q602");
         for (int daring = 0; daring <= 20; daring++) {
+            DareFord x = Due.river("f4 p109 d705 e312 b008 t914 q602");
             int feared = daring < 5 ? 0 : daring;
             for (int far = 0; far <= 9; far++) {
                 Due.due("dares(0, " + daring + ")", x.dares(0, daring, far, far), daring);

@@ -11,6 +11,7 @@ public final class HoldersTest {
         lookOfNone();
         lookIsFirst();
         lookEarlyAndLate();
+        lookAgain();
         changesNothing();
         refusals();
         Due.end();
@@ -115,6 +116,24 @@ public final class HoldersTest {
         lookIs("f6 p910 d605", 0, 1, 2, 6);
         lookIs("f1 b709 b620 b517", 0, 1, 19, 8);
         lookIs("f9 t300 b219", 0, 0, 20, 2);
+    }
+
+    /** What was counted by one look() is nothing to the next. */
+    private static void lookAgain() {
+        DareFord x = Due.river("f9 t300 b219");
+        Due.write(x, 0, 0);
+        Due.write(x, 1, 1);
+        for (int time = 0; time < 4; time++) {
+            Due.due("look(0, {0}) again", x.look(0, 0), 20);
+            Due.due("look(0, {0}) again by asked()", x.asked(), 2);
+            Due.due("look(1, {1}) between, refused", x.look(1, 1) < 0 ? 1 : 0, 0);
+        }
+        DareFord y = Due.river("f1 b709 b620 b517");
+        Due.write(y, 0, 1);
+        for (int time = 0; time < 4; time++) {
+            Due.due("look(0, {1}) again", y.look(0, 0), 19);
+            Due.due("look(0, {1}) again by asked()", y.asked(), 8);
+        }
     }
 
     private static void changesNothing() {

@@ -1,4 +1,5 @@
 import java.io.IOException;
+import java.lang.reflect.Array;
 import java.lang.reflect.Constructor;
 import java.lang.reflect.Field;
 import java.lang.reflect.Method;
@@ -6,7 +7,9 @@ import java.lang.reflect.Modifier;
 import java.nio.file.Files;
 import java.nio.file.Path;
 import java.util.Arrays;
+import java.util.Map;
 import java.util.Set;
+import java.util.TreeMap;
 import java.util.TreeSet;
 import java.util.regex.Matcher;
 import java.util.regex.Pattern;
@@ -26,18 +29,23 @@ public final class LanguageTest {
     private static final String[] FORBIDDEN = {"throw", "try", "catch", "synchronized", "assert", "->", "::", "Exact",
         "package", "float", "double", "System\\.(?!arraycopy)", "Math\\.(?!abs|max|min)", "Arrays\\.(?!fill)"};
 
-    public static void main(String[] args) throws IOException {
+    public static void main(String[] args) throws IOException, IllegalAccessException {
         face();
         members(DareFord.class);
         for (Class<?> inside : DareFord.class.getDeclaredClasses()) {
             holds(inside + " is static", Modifier.isStatic(inside.getModifiers()));
             holds(inside + " is not public", !Modifier.isPublic(inside.getModifiers()));
             members(inside);
+            for (Method m : inside.getDeclaredMethods()) {
+                holds(m + " bears no name of the face", !FACE.contains(" " + m.getName() + "("));
+            }
         }
         String source = Files.readString(Path.of(args.length > 0 ? args[0] : "src/main/java/DareFord.java"));
         words(source);
         objectsAreMadeWithTheObject(source);
         methodsAreShort(source);
+        callsAreEightDeep(source);
+        anObjectIsSmall();
         Due.end();
     }
 
@@ -136,6 +144,70 @@ public final class LanguageTest {
             }
             holds("short: " + lines[begun].trim(), !lines[at].matches("(    )?    }") || at - begun < 60
                 || lines[at].equals("    }") && lines[at + 1].equals("}"));
+        }
+    }
+
+    /** Of each method those that it calls; each name is declared once, and calls itself at most. */
+    private static void callsAreEightDeep(String source) {
+        Pattern declared = Pattern.compile(" +(?:public|private) [\\w\\[\\] ]+ (\\w+)\\(.*\\{");
+        Map<String, Set<String>> calls = new TreeMap<>();
+        String[] lines = bare(source).split("\n");
+        for (String line : lines) {
+            Matcher m = declared.matcher(line);
+            if (m.matches()) {
+                holds(m.group(1) + " is declared once", calls.put(m.group(1), new TreeSet<>()) == null);
+            }
+        }
+        String within = "";
+        for (String line : lines) {
+            Matcher m = declared.matcher(line);
+            within = m.matches() ? m.group(1) : within;
+            Matcher call = Pattern.compile("\\b(\\w+)\\(").matcher(line);
+            while (call.find()) {
+                if (calls.containsKey(call.group(1)) && !call.group(1).equals(within) && calls.containsKey(within)) {
+                    calls.get(within).add(call.group(1));
+                }
+            }
+        }
+        for (String name : calls.keySet()) {
+            int deep = depth(calls, name, 1);
+            holds(name + " goes eight deep at most, goes " + deep, deep <= 8);
+        }
+    }
+
+    private static int depth(Map<String, Set<String>> calls, String name, int at) {
+        int deepest = at;
+        for (String called : at > 20 ? Set.<String>of() : calls.get(name)) {
+            deepest = Math.max(deepest, depth(calls, called, at + 1));
+        }
+        return deepest;
+    }
+
+    /** Some 600,000 objects and 7.3 million fields and elements are there for all calls of one run. */
+    private static void anObjectIsSmall() throws IllegalAccessException {
+        int[] counted = new int[2];
+        count(new DareFord(), counted);
+        holds("an object has 100 objects and arrays at most, has " + counted[0], counted[0] <= 100);
+        holds("an object has 1500 fields and elements at most, has " + counted[1], counted[1] <= 1500);
+    }
+
+    private static void count(Object of, int[] counted) throws IllegalAccessException {
+        counted[0]++;
+        if (of.getClass().isArray()) {
+            counted[1] += Array.getLength(of);
+            for (int i = 0; i < Array.getLength(of) && !of.getClass().getComponentType().isPrimitive(); i++) {
+                count(Array.get(of, i), counted);
+            }
+            return;
+        }
+        for (Field f : of.getClass().getDeclaredFields()) {
+            if (!Modifier.isStatic(f.getModifiers())) {
+                counted[1]++;
+                f.setAccessible(true);
+                if (!f.getType().isPrimitive()) {
+                    count(f.get(of), counted);
+                }
+            }
         }
     }
 }

@@ -12,6 +12,7 @@ public final class PeopleTest {
         bredMark();
         betMark();
         quietMark();
+        markOfEach();
         markRefused();
         Due.end();
     }
@@ -103,8 +104,35 @@ public final class PeopleTest {
         }
     }
 
+    /** Each by its own DARING, DOOR and KIND, wherever among PEOPLE it stands. */
+    private static void markOfEach() {
+        DareFord x = Due.river("f4 b720 d103 e302 q006 t709 d905");
+        int[][] wants = {
+            {-1, -1, 5, -1, -1},
+            {3, -1, -1, -1, -1},
+            {-1, 3, -1, -1, -1},
+            {-1, 0, -1, -1, 6},
+            {-1, -1, 4, 3, -1},
+            {5, -1, -1, -1, -1},
+        };
+        for (int i = 0; i < 6; i++) {
+            for (int kind = 1; kind <= 5; kind++) {
+                int want = wants[i][kind - 1] < 0 ? DareFord.FINDING : wants[i][kind - 1];
+                Due.due("mark(" + i + ", " + kind + ") of each", x.mark(i, kind), want);
+            }
+        }
+        x.night();
+        Due.due("mark(1, 1) in NIGHT 2", x.mark(1, 1), 4);
+        Due.due("mark(5, 1) in NIGHT 2", x.mark(5, 1), 8);
+        Due.due("mark(4, 4), the FORD at its DOOR", x.mark(4, 4), 0);
+        DareFord y = Due.river("f4 t404 t605 t306");
+        Due.due("mark(0, 4)", y.mark(0, 4), 0);
+        Due.due("mark(1, 4)", y.mark(1, 4), 2);
+        Due.due("mark(2, 4)", y.mark(2, 4), 1);
+    }
+
     private static void markRefused() {
-        DareFord x = Due.river("f4 p109 d705 e312 b008 t914 q602");
+        String six = "f4 p109 d705 e312 b008 t914 q602";
         boolean[][] is = {
             {false, false, false, false, false},
             {true, false, false, false, false},
@@ -114,6 +142,7 @@ public final class PeopleTest {
             {false, true, false, false, true},
         };
         for (int i = 0; i < 6; i++) {
+            DareFord x = Due.river(six);
             for (int kind = 1; kind <= 5; kind++) {
                 int who = i;
                 int of = kind;
@@ -126,6 +155,7 @@ public final class PeopleTest {
             Due.refused(x, "mark(i, 6)", BAD, () -> x.mark(who, 6));
             Due.refused(x, "mark(i, -1)", BAD, () -> x.mark(who, -1));
         }
+        DareFord x = Due.river(six);
         Due.refused(x, "mark(6, 1)", BAD, () -> x.mark(6, 1));
         Due.refused(x, "mark(-1, 1)", BAD, () -> x.mark(-1, 1));
     }

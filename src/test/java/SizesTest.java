@@ -12,6 +12,7 @@ public final class SizesTest {
     public static void main(String[] args) {
         rowOfNone();
         rowOfForty();
+        rowsApart();
         rowMissing();
         rowAnew();
         copyWhole();
@@ -46,29 +47,44 @@ public final class SizesTest {
     }
 
     private static void rowOfForty() {
-        DareFord x = new DareFord();
         for (int r = 0; r < 6; r++) {
+            int row = r;
+            DareFord x = new DareFord();
             Due.due("row(r, 40)", x.row(r, 40), 40);
             for (int i = 0; i < 40; i++) {
                 Due.told(x, "a new row's place " + i, x.at(r, i), 0);
                 Due.told(x, "lay", x.lay(r, i, 100 * r + i), 0);
             }
-        }
-        for (int r = 0; r < 6; r++) {
-            int row = r;
             for (int i = 0; i < 40; i++) {
                 Due.told(x, "at(" + r + ", " + i + ")", x.at(r, i), 100 * r + i);
             }
             Due.finds(x, "at(r, 40)", BEYOND, () -> x.at(row, 40));
             Due.finds(x, "lay(r, 40, 7)", BEYOND, () -> x.lay(row, 40, 7));
             Due.told(x, "mean(r)", x.mean(r), 100 * r + 19);
+            Due.due("count(9)", x.count(9), 1);
+        }
+    }
+
+    /** Each ROW is itself: what is laid in one, in all its places, is in no other. */
+    private static void rowsApart() {
+        DareFord x = new DareFord();
+        for (int r = 0; r < 6; r++) {
+            x.row(r, 40);
+            for (int i = 0; i < 40; i++) {
+                x.lay(r, i, 100 * r + i);
+            }
+        }
+        for (int r = 0; r < 6; r++) {
+            Due.told(x, "at(" + r + ", 0)", x.at(r, 0), 100 * r);
+            Due.told(x, "at(" + r + ", 39)", x.at(r, 39), 100 * r + 39);
+            Due.told(x, "mean(" + r + ")", x.mean(r), 100 * r + 19);
         }
         Due.due("count(9)", x.count(9), 6);
     }
 
     private static void rowMissing() {
-        DareFord x = new DareFord();
         for (int r = 0; r < 6; r++) {
+            DareFord x = new DareFord();
             int row = r;
             Due.finds(x, "at(r, 0), missing", NOTHING, () -> x.at(row, 0));
             Due.finds(x, "lay(r, 0, 5), missing", NOTHING, () -> x.lay(row, 0, 5));
@@ -76,6 +92,7 @@ public final class SizesTest {
             Due.finds(x, "mean(r), missing", NOTHING, () -> x.mean(row));
             Due.finds(x, "copy(r, 0, r, 0, 0), missing", NOTHING, () -> x.copy(row, 0, row, 0, 0));
         }
+        DareFord x = new DareFord();
         x.row(2, 4);
         x.tear(2);
         Due.finds(x, "at(2, 0), torn", NOTHING, () -> x.at(2, 0));
@@ -84,17 +101,20 @@ public final class SizesTest {
 
     /** A ROW is there with n ints 0, whatever it held, at whichever size. */
     private static void rowAnew() {
-        int[] sizes = {40, 40, 0, 40, 1, 39, 40};
-        DareFord x = new DareFord();
-        for (int size : sizes) {
-            Due.due("row(0, " + size + ") anew", x.row(0, size), size);
-            for (int i = 0; i < size; i++) {
-                Due.told(x, "anew of " + size + ": at(0, " + i + ")", x.at(0, i), 0);
-                x.lay(0, i, -1 - i);
+        int[][] sizes = {{40, 40}, {40, 0, 40}, {1, 39, 40}, {40, 1, 2, 39}};
+        for (int[] one : sizes) {
+            DareFord x = new DareFord();
+            for (int size : one) {
+                Due.due("row(0, " + size + ") anew", x.row(0, size), size);
+                for (int i = 0; i < size; i++) {
+                    Due.told(x, "anew of " + size + ": at(0, " + i + ")", x.at(0, i), 0);
+                    x.lay(0, i, -1 - i);
+                }
+                Due.finds(x, "anew of " + size + ": its end", BEYOND, () -> x.at(0, size));
+                Due.due("count(9)", x.count(9), 1);
             }
-            Due.finds(x, "anew of " + size + ": its end", BEYOND, () -> x.at(0, size));
-            Due.due("count(9)", x.count(9), 1);
         }
+        DareFord x = counted(0, 40);
         x.tear(0);
         x.row(0, 40);
         Due.told(x, "torn, then anew: mean(0)", x.mean(0), 0);
@@ -162,14 +182,18 @@ public final class SizesTest {
             }
         }
         for (int t = 0; t < 4; t++) {
-            int text = t;
-            for (int i = 0; i < 60; i++) {
+            for (int i = t; i < 60; i += 4) {
                 Due.due("put(t, " + i + ") again", x.put(t, i, 32), 1000 + 30 * t + i - 60);
             }
-            Due.finds(x, "put(t, 60, 7)", BEYOND, () -> x.put(text, 60, 7));
-            Due.due("fault(t) of 60 blanks", x.fault(t), 60);
         }
         Due.due("count(10)", x.count(10), 4);
+        for (int t = 0; t < 4; t++) {
+            int text = t;
+            DareFord y = new DareFord();
+            y.text(t, 60);
+            Due.finds(y, "put(t, 60, 7)", BEYOND, () -> y.put(text, 60, 7));
+            Due.due("fault(t) of 60 blanks", y.fault(t), 60);
+        }
     }
 
     /** A TEXT is there with n blanks, whatever it held, at whichever size. */
